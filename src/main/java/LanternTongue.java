@@ -404,7 +404,7 @@ public final class LanternTongue {
         return least >= FAR ? NONE : least;
     }
 
-    /** The only two places where a row is indexed, so that no index goes untested. */
+    /** Rows are indexed here and in put() alone, so that no index goes untested. */
     private static int cell(int[] row, int index) {
         return index >= 0 && index < row.length ? row[index] : 0;
     }
@@ -433,7 +433,7 @@ public final class LanternTongue {
         }
 
         int digitAt(int place) {
-            return codeAt(place) - '0';
+            return cell(codes, place) - '0';
         }
 
         boolean isMine() {

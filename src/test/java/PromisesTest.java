@@ -129,6 +129,7 @@ public final class PromisesTest {
         due("5 read", x.count(8), 1);
         due("5 of nothing", x.mine(), STATE);
         x.party(0);
+        x.step(0, 0);
         x.hear(NONE, 0);
         x.image();
         write(x, ".01,.12,.20;3x");
@@ -140,7 +141,12 @@ public final class PromisesTest {
         write(x, ".01,.12,.20;3");
         due("5 another", x.mine(), 3);
         due("5 parties are gone", x.count(2), 0);
+        due("5 none is at a crossing", x.crossing(0, 5), 0);
+        due("5 none has oil", x.count(3), 0);
+        due("5 none may look", x.count(5), 0);
         due("5 heard is gone", x.count(6), 0);
+        x.party(0);
+        due("8 one of a number that was is new", x.about(0, 2), 0);
         due("5 the image is gone", x.restore(), STATE);
         due("5 its oil", x.count(1), 3);
         due("5 read twice", x.count(8), 2);
@@ -384,6 +390,15 @@ public final class PromisesTest {
         due("21 of like ones left", mined(".01,.10;1").next(), 0);
         due("21 right leaves fewer", mined(".01,.11;1").next(), 1);
         due("21 places are counted, not those who come", mined(".00,.01,d02,d03;1").next(), 0);
+        LanternTongue w = mined(".12,d12,.12;1");
+        w.hear(NONE, 0);
+        due("20 the first is no step", w.where(), 5);
+        LanternTongue z = mined(".10,d12,.20;1");
+        z.hear(NONE, 0);
+        z.hear(1, 0);
+        due("20 by right", z.where(), 1);
+        z.hear(0, 1);
+        due("20 by left", z.where(), 2);
         LanternTongue y = new LanternTongue();
         due("18 without a mine", y.hear(NONE, 2), 1);
         due("20 without a mine", y.where(), STATE);
@@ -417,10 +432,15 @@ public final class PromisesTest {
         due("23 of nobody", x.image(), 0);
         x.party(0);
         x.party(1);
+        x.step(0, 0);
+        x.step(0, 0);
         x.speak(1);
         x.step(1, 0);
         x.hear(NONE, 0);
         due("24 those that came since are gone", x.restore(), 0);
+        due("24 from their crossing, too", x.crossing(0, 5), 0);
+        due("24 and their oil", x.count(3), 0);
+        due("24 and that they may look", x.count(5), 0);
         due("24 so is what was heard", x.count(6), 0);
         x.party(0);
         x.speak(0);
@@ -432,9 +452,13 @@ public final class PromisesTest {
         x.step(0, 0);
         x.speak(0);
         x.fill(0);
+        x.step(0, 0);
+        x.step(0, 0);
+        x.step(0, 0);
         x.party(1);
         x.forget();
         x.hear(NONE, 2);
+        x.hear(0, 2);
         x.letter('b');
         due("24 restore", x.restore(), 1);
         int[] told = {1, 8, 1, 1, 0};
@@ -453,6 +477,25 @@ public final class PromisesTest {
         due("24 another mine since", x.restore(), STATE);
         due("23 image of it", x.image(), 0);
         due("24 restore of it", x.restore(), 0);
+    }
+
+    private static void imageOfWays() {
+        LanternTongue x = mined(".01,d20,w22;1");
+        x.hear(NONE, 0);
+        x.hear(1, 1);
+        x.image();
+        x.forget();
+        x.hear(NONE, 0);
+        x.hear(0, 0);
+        x.restore();
+        due("24 which steps they made", x.where(), 2);
+        x.party(0);
+        x.party(2);
+        x.image();
+        x.step(0, 1);
+        x.restore();
+        due("24 where they are", x.about(0, 0), 0);
+        due("9 the last oil is enough to look", x.about(1, 4), 1);
     }
 
     private static void counts() {
@@ -518,6 +561,7 @@ public final class PromisesTest {
         lost();
         walking();
         images();
+        imageOfWays();
         counts();
         digests();
         System.out.println(wrong == 0 ? "all promises hold" : wrong + " answers are not as due");
