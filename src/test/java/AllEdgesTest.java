@@ -252,6 +252,19 @@ public final class AllEdgesTest extends Edges {
         due("letters", full().count(7), 28);
     }
 
+    @Edge(promise = 25, says = "An object is used for at most 512 calls after it has been made")
+    static void theStepsOfAWholeLife() {
+        // 10 calls to read the mine, 1 for the party, 50 times 9 steps and a fill, and count() is the 512th.
+        LanternTongue x = peopled(".00,.11;9", 0);
+        for (int time = 1; time <= 50; time++) {
+            for (int n = 1; n <= 9; n++) {
+                due("step " + n + " of time " + time, x.step(0, LEFT), 0);
+            }
+            due("fill " + time, x.fill(0), 0);
+        }
+        due("count(4)", x.count(4), 450);
+    }
+
     @Edge(promise = 25, says = "8 how often a MINE was read")
     static void asOftenAsAnObjectsLifeAllows() {
         LanternTongue x = fresh();

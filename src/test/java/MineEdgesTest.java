@@ -380,6 +380,8 @@ public final class MineEdgesTest extends Edges {
     @Edge(promise = 5, says = "another one is gone, with all that was")
     static void ofAGreaterOneNothingIsLeft() {
         LanternTongue x = peopled(MOST, 5, 5, 5);
+        x.step(0, LEFT);
+        x.speak(0);
         x.hear(NONE, 0);
         write(x, LEAST);
         due("mine()", x.mine(), 2);
@@ -391,6 +393,7 @@ public final class MineEdgesTest extends Edges {
         due("party(1)", x.party(1), 0);
         due("its oil", x.about(0, 1), 1);
         due("its steps", x.about(0, 2), 0);
+        due("it never spoke", x.about(0, 3), NONE);
     }
 
     @Edge(promise = 5, says = "another one is gone, with all that was")

@@ -204,6 +204,16 @@ public final class WayEdgesTest extends Edges {
         due("one may go to itself", peopled(".11,.10;1", 0, 1).meet(0, 1), 1);
     }
 
+    @Edge(promise = 16, says = "both STEP at once")
+    static void eachMayGoEitherWay() {
+        // The first at 0, the second at 1; 4 is where one way of each leads, 2 and 3 are shut.
+        for (String mine : new String[] {".42,.43,.22,.33,.44;1", ".42,.34,.22,.33,.44;1",
+                ".24,.43,.22,.33,.44;1", ".24,.34,.22,.33,.44;1"}) {
+            due("in " + mine, peopled(mine, 0, 1).meet(0, 1), 1);
+            due("either way about in " + mine, peopled(mine, 0, 1).meet(1, 0), 1);
+        }
+    }
+
     @Edge(promise = 16, says = "the fewest times, so that both are at one CROSSING then (0: they are); none.")
     static void theyNeverMeet() {
         due("shut", peopled(SHUT, 0, 1).meet(0, 1), NONE);
