@@ -25,6 +25,8 @@ public final class FaceTest {
         "\\w+Exact\\b", "while\\s*\\(\\s*true", "for\\s*\\(\\s*;\\s*;",
     };
 
+    private static final int MOST_CLASSES = 12, MOST_FIELDS = 20, MOST_PARAMETERS = 7, MOST_LINES = 60;
+
     private static int wrong = 0;
 
     private static void report(String what) {
@@ -92,6 +94,11 @@ public final class FaceTest {
     private static void testText() throws Exception {
         String text = Files.readString(Path.of("src/main/java/LanternTongue.java"));
         String code = text.replaceAll("(?s)/\\*.*?\\*/", " ").replaceAll("//[^\n]*", " ").replaceAll("\"[^\"\n]*\"", "\"\"");
+        for (char sign : text.toCharArray()) {
+            if (sign > 126) {
+                report("the text has the sign " + (int) sign);
+            }
+        }
         for (String forbidden : FORBIDDEN) {
             Matcher m = Pattern.compile(forbidden).matcher(code);
             if (m.find()) {
@@ -107,10 +114,55 @@ public final class FaceTest {
         }
     }
 
+    private static void testSizesOf(Class<?> type) {
+        int fields = 0;
+        for (Field field : type.getDeclaredFields()) {
+            fields += Modifier.isStatic(field.getModifiers()) ? 0 : 1;
+        }
+        if (fields > MOST_FIELDS) {
+            report(type.getName() + " has " + fields + " fields");
+        }
+        for (Method method : type.getDeclaredMethods()) {
+            if (method.getParameterCount() > MOST_PARAMETERS) {
+                report(type.getName() + "." + method.getName() + " takes " + method.getParameterCount());
+            }
+        }
+    }
+
+    private static void testSizes() throws Exception {
+        Class<?>[] inside = LanternTongue.class.getDeclaredClasses();
+        if (inside.length + 1 > MOST_CLASSES) {
+            report("there are " + (inside.length + 1) + " classes");
+        }
+        testSizesOf(LanternTongue.class);
+        for (Class<?> type : inside) {
+            testSizesOf(type);
+        }
+        testLengths();
+    }
+
+    /** A method begins with a line that ends in ") {" and ends with a brace as far in as it began. */
+    private static void testLengths() throws Exception {
+        String[] lines = Files.readString(Path.of("src/main/java/LanternTongue.java")).split("\n");
+        for (int i = 0; i < lines.length; i++) {
+            String far = lines[i].replaceAll("\\S.*", "");
+            if (lines[i].matches(" {4}( {4})?[a-zA-Z].*\\) \\{")) {
+                int end = i;
+                while (end < lines.length && !lines[end].equals(far + "}")) {
+                    end++;
+                }
+                if (end - i + 1 > MOST_LINES) {
+                    report("a method of " + (end - i + 1) + " lines: " + lines[i].trim());
+                }
+            }
+        }
+    }
+
     public static void main(String[] args) throws Exception {
         testMembers();
         testNames();
         testText();
+        testSizes();
         System.out.println(wrong == 0 ? "the face is as due" : wrong + " faults of the face");
         if (wrong != 0) {
             System.exit(1);
